@@ -304,11 +304,9 @@ public final class PaintedOver {
         if (!book.isTold() || what < 0 || what > 2) {
             return refuse(NONE_SUCH);
         }
-        int why = planTrouble(year);
-        if (why != NOT_REFUSED) {
-            return refuse(why);
+        if (!looksAhead(year)) {
+            return NONE;
         }
-        plan.look(book, works, year, NONE);
         int cells = plan.bestCells();
         if (what == 0) {
             return accept(plan.alikeBehind(cells));
@@ -320,11 +318,9 @@ public final class PaintedOver {
         if (!book.isTold()) {
             return refuse(NONE_SUCH);
         }
-        int why = planTrouble(year);
-        if (why != NOT_REFUSED) {
-            return refuse(why);
+        if (!looksAhead(year)) {
+            return NONE;
         }
-        plan.look(book, works, year, NONE);
         return accept(plan.fewestWorks());
     }
 
@@ -332,11 +328,9 @@ public final class PaintedOver {
         if (!book.isTold() || i < 0) {
             return refuse(NONE_SUCH);
         }
-        int why = planTrouble(year);
-        if (why != NOT_REFUSED) {
-            return refuse(why);
+        if (!looksAhead(year)) {
+            return NONE;
         }
-        plan.look(book, works, year, NONE);
         int steps = plan.fewestWorks();
         if (steps < 0) {
             return refuse(THERE_IS_NONE);
@@ -351,11 +345,9 @@ public final class PaintedOver {
         if (!book.isTold()) {
             return refuse(NONE_SUCH);
         }
-        int why = planTrouble(year);
-        if (why != NOT_REFUSED) {
-            return refuse(why);
+        if (!looksAhead(year)) {
+            return NONE;
         }
-        plan.look(book, works, year, NONE);
         return accept(plan.mostAlike());
     }
 
@@ -363,11 +355,9 @@ public final class PaintedOver {
         if (!works.has(w)) {
             return refuse(NONE_SUCH);
         }
-        int why = planTrouble(year);
-        if (why != NOT_REFUSED) {
-            return refuse(why);
+        if (!looksAhead(year)) {
+            return NONE;
         }
-        plan.look(book, works, year, NONE);
         return accept(plan.fewestLeft(works.shownCells(w)));
     }
 
@@ -375,11 +365,9 @@ public final class PaintedOver {
         if (contract < 0 || contract >= book.contracts) {
             return refuse(NONE_SUCH);
         }
-        int why = planTrouble(year);
-        if (why != NOT_REFUSED) {
-            return refuse(why);
+        if (!looksAhead(year)) {
+            return NONE;
         }
-        plan.look(book, works, year, NONE);
         int bound = plan.alikeBehind(plan.bestCells());
         plan.look(book, works, year, contract);
         return accept(plan.alikeBehind(plan.bestCells()) - bound);
@@ -603,11 +591,16 @@ public final class PaintedOver {
         return works.has(w) && works.has(other) && w != other;
     }
 
-    private int planTrouble(int year) {
+    /** Whether WORKS to come in a year can be told of; the TROUBLE if not. */
+    private boolean looksAhead(int year) {
         if (!isYear(year)) {
-            return A_NUMBER;
+            return deny(A_NUMBER);
         }
-        return book.cells() > PLANNED_CELLS ? NO_ROOM : NOT_REFUSED;
+        if (book.cells() > PLANNED_CELLS) {
+            return deny(NO_ROOM);
+        }
+        plan.look(book, works, year, NONE);
+        return grant();
     }
 
     private int colourIn(int cell, int year) {
@@ -927,13 +920,15 @@ public final class PaintedOver {
             if (count >= 0 && count < MOST_WORKS) {
                 hands[count] = hand;
                 years[count] = year;
-                Arrays.fill(colours, count * MOST_CELLS, (count + 1) * MOST_CELLS, BARE);
+                for (int cell = 0; cell < MOST_CELLS; cell++) {
+                    colours[count * MOST_CELLS + cell] = BARE;
+                }
             }
         }
 
         void lay(int row, int colour, int cells) {
-            for (int cell = 0; cell < MOST_CELLS; cell++) {
-                if ((cells >> cell & 1) != 0 && isRow(row)) {
+            for (int cell = 0; cell < MOST_CELLS && isRow(row); cell++) {
+                if ((cells >> cell & 1) != 0) {
                     colours[row * MOST_CELLS + cell] = colour;
                 }
             }
@@ -948,7 +943,8 @@ public final class PaintedOver {
         }
 
         int colourAt(int row, int cell) {
-            return isRow(row) && cell >= 0 && cell < MOST_CELLS ? colours[row * MOST_CELLS + cell] : BARE;
+            boolean stands = row >= 0 && row < MOST_WORKS && cell >= 0 && cell < MOST_CELLS;
+            return stands ? colours[row * MOST_CELLS + cell] : BARE;
         }
 
         private static boolean isRow(int row) {
