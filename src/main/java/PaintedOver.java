@@ -1170,7 +1170,9 @@ public final class PaintedOver {
         /** Counted by which WORKS have come so far; those orders alone in which first comes ahead of second (NONE: all). */
         long countAll(int first, int second) {
             int sets = 1 << count;
-            Arrays.fill(ways, 0L);
+            for (int come = 0; come < sets; come++) {
+                ways[come] = 0;
+            }
             ways[0] = 1;
             for (int come = 0; come < sets; come++) {
                 for (int w = 0; w < count && ways[come] != 0; w++) {
@@ -1396,6 +1398,25 @@ public final class PaintedOver {
         private static final int WORD_LETTERS = 8;
         private static final int WHOLE_DIGITS = 3;
 
+        /** A WORD has at most 8 letters: a long holds it whole, a letter in a byte, and no text need be made of it. */
+        static final long WALL = 0x77616c6cL;
+        static final long WIDE = 0x77696465L;
+        static final long HIGH = 0x68696768L;
+        static final long KEEPS = 0x6b65657073L;
+        static final long PARTS = 0x7061727473L;
+        static final long COLOUR = 0x636f6c6f7572L;
+        static final long THICK = 0x746869636bL;
+        static final long FADES = 0x6661646573L;
+        static final long SINCE = 0x73696e6365L;
+        static final long HAND = 0x68616e64L;
+        static final long WORK = 0x776f726bL;
+        static final long YEAR = 0x79656172L;
+        static final long TO = 0x746fL;
+        static final long CONTRACT = 0x636f6e7472616374L;
+        static final long FROM = 0x66726f6dL;
+        static final long UNTIL = 0x756e74696cL;
+        static final long WANT = 0x77616e74L;
+
         private int count;
         private final int[] kinds = new int[TAPE_BYTES + 1];
         private final int[] starts = new int[TAPE_BYTES + 1];
@@ -1459,7 +1480,6 @@ public final class PaintedOver {
             return number;
         }
 
-        /** A WORD has at most 8 letters, of 8 bits each: a long holds it whole. */
         private static long lettersOf(byte[] text, int start, int end) {
             long letters = 0;
             for (int i = start; i < end; i++) {
@@ -1472,18 +1492,14 @@ public final class PaintedOver {
             return i >= 0 && i < count && kinds[i] == kind;
         }
 
-        boolean isWord(int i, String word) {
-            long letters = 0;
-            for (int k = 0; k < word.length(); k++) {
-                letters = letters << 8 | word.charAt(k);
-            }
-            return i >= 0 && i < count && kinds[i] == WORD && values[i] == letters;
+        boolean isWord(int i, long word) {
+            return i >= 0 && i < count && kinds[i] == WORD && values[i] == word;
         }
 
         /** NAMES are WORDS but those that begin a LINE. */
         boolean isName(int i) {
-            boolean beginsLine = isWord(i, "wall") || isWord(i, "colour") || isWord(i, "hand")
-                || isWord(i, "work") || isWord(i, "contract") || isWord(i, "want");
+            boolean beginsLine = isWord(i, WALL) || isWord(i, COLOUR) || isWord(i, HAND)
+                || isWord(i, WORK) || isWord(i, CONTRACT) || isWord(i, WANT);
             return isKind(i, WORD) && !beginsLine;
         }
 
@@ -1525,17 +1541,17 @@ public final class PaintedOver {
             at = 0;
             boolean more = true;
             for (int lines = 0; lines <= length && more; lines++) {
-                if (tokens.isWord(at, "wall")) {
+                if (tokens.isWord(at, Tokens.WALL)) {
                     wallLine();
-                } else if (tokens.isWord(at, "colour")) {
+                } else if (tokens.isWord(at, Tokens.COLOUR)) {
                     colourLine();
-                } else if (tokens.isWord(at, "hand")) {
+                } else if (tokens.isWord(at, Tokens.HAND)) {
                     handLine();
-                } else if (tokens.isWord(at, "work")) {
+                } else if (tokens.isWord(at, Tokens.WORK)) {
                     workLine();
-                } else if (tokens.isWord(at, "contract")) {
+                } else if (tokens.isWord(at, Tokens.CONTRACT)) {
                     contractLine();
-                } else if (tokens.isWord(at, "want")) {
+                } else if (tokens.isWord(at, Tokens.WANT)) {
                     wantLine();
                 } else {
                     fail(FORM);
@@ -1562,13 +1578,13 @@ public final class PaintedOver {
                 fail(TOLD_AGAIN);
             }
             at++;
-            readWord("wide");
+            readWord(Tokens.WIDE);
             book.wide = readWhole(1, 6);
-            readWord("high");
+            readWord(Tokens.HIGH);
             book.high = readWhole(1, 4);
-            readWord("keeps");
+            readWord(Tokens.KEEPS);
             book.keeps = readWhole(0, book.cells());
-            readWord("parts");
+            readWord(Tokens.PARTS);
             book.parts = readWhole(0, 9);
         }
 
@@ -1578,11 +1594,11 @@ public final class PaintedOver {
             }
             at++;
             long name = readNewName(false);
-            readWord("thick");
+            readWord(Tokens.THICK);
             int thick = readWhole(0, 9);
-            readWord("fades");
+            readWord(Tokens.FADES);
             int fades = readWhole(0, LAST_YEAR);
-            readWord("since");
+            readWord(Tokens.SINCE);
             int since = readWhole(0, LAST_YEAR);
             if (fault == 0) {
                 book.addColour(name, thick, fades, since);
@@ -1610,7 +1626,7 @@ public final class PaintedOver {
             }
             at++;
             int hand = readHand();
-            readWord("year");
+            readWord(Tokens.YEAR);
             works.start(hand, readWhole(works.latestYear(), LAST_YEAR));
             readPatches(works.count);
             if (fault == 0) {
@@ -1627,9 +1643,9 @@ public final class PaintedOver {
             }
             at++;
             int cells = readCorners();
-            readWord("from");
+            readWord(Tokens.FROM);
             int from = readWhole(0, LAST_YEAR);
-            readWord("until");
+            readWord(Tokens.UNTIL);
             int until = readWhole(from, LAST_YEAR);
             if (fault == 0) {
                 book.addContract(cells, from, until);
@@ -1670,14 +1686,14 @@ public final class PaintedOver {
             int x = readWhole(0, book.wide - 1);
             readComma();
             int y = readWhole(0, book.high - 1);
-            readWord("to");
+            readWord(Tokens.TO);
             int right = readWhole(x, book.wide - 1);
             readComma();
             int low = readWhole(y, book.high - 1);
             return book.patchCells(x, y, right, low);
         }
 
-        private void readWord(String word) {
+        private void readWord(long word) {
             if (!tokens.isWord(at, word)) {
                 fail(FORM);
             }

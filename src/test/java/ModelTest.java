@@ -5,6 +5,7 @@
 public final class ModelTest {
     private static final int BOOKS = 1500;
     private static final int CALLS = 240;
+    private static final int WIDE_WALLS = 150;
 
     private final Check check = new Check();
     private long drawn = 88172645463325252L;
@@ -13,6 +14,9 @@ public final class ModelTest {
         ModelTest test = new ModelTest();
         for (int i = 0; i < BOOKS; i++) {
             test.run(i);
+        }
+        for (int i = 0; i < WIDE_WALLS; i++) {
+            test.wideWall(i);
         }
         test.check.end("ModelTest");
     }
@@ -123,6 +127,37 @@ public final class ModelTest {
                 tell(x, m, draw(2) == 0 ? text(6) : spoiled(text(6)), told);
             }
         }
+    }
+
+    /** What can come on walls of 8 to 12 cells, most of them wanted, by works that keep much. */
+    private void wideWall(int number) {
+        int[][] walls = {{4, 2}, {3, 3}, {5, 2}, {6, 2}, {4, 3}};
+        int[] wall = walls[draw(100) < 90 ? draw(3) : draw(3, 4)];
+        int cells = wall[0] * wall[1];
+        StringBuilder text = new StringBuilder();
+        text.append("wall wide ").append(wall[0]).append(" high ").append(wall[1]).append(" keeps ");
+        text.append(draw(cells / 2, cells - 1)).append(" parts ").append(draw(4));
+        text.append(";colour a thick 0 fades 0 since 0;colour b thick 0 fades 0 since ").append(draw(20)).append(";hand h;want a 0,0 to ");
+        text.append(wall[0] - 1).append(",").append(wall[1] - 1).append(",b ").append(box(wall[0], wall[1]));
+        if (draw(2) == 0) {
+            text.append(";work h year 9 b ").append(box(wall[0], wall[1]));
+        }
+        text.append(";contract ").append(box(wall[0], wall[1])).append(" from 5 until 12");
+        PaintedOver x = new PaintedOver();
+        Model m = new Model();
+        StringBuilder told = new StringBuilder("wide wall " + number + ": ");
+        tell(x, m, text.toString(), told);
+        int year = draw(25);
+        same(x, m, told, "need " + year, x.need(year), answer(m, () -> m.need(year)));
+        long steps = m.book == null ? 0 : m.need(year);
+        for (int i = 0; i < steps; i++) {
+            int turn = i;
+            same(x, m, told, "step " + year + " " + i, x.step(year, i), answer(m, () -> m.step(year, turn)));
+        }
+        same(x, m, told, "reach " + year, x.reach(year), answer(m, () -> m.reach(year)));
+        same(x, m, told, "best " + year, x.best(year, 2), answer(m, () -> m.best(year, 2)));
+        same(x, m, told, "freed 0 " + year, x.freed(0, year), answer(m, () -> m.freed(0, year)));
+        same(x, m, told, "least 0 " + year, x.least(0, year), answer(m, () -> m.least(0, year)));
     }
 
     private void tell(PaintedOver x, Model m, String text, StringBuilder told) {
