@@ -16,6 +16,7 @@ public final class TapeBoundsTest {
         test.bookOfNothing();
         test.firstBytesAlone();
         test.wholeTape();
+        test.wholeTapeOfTokens();
         test.bookAnswersWorks();
         test.bookClearsActs();
         test.nothingOfFormerBooks();
@@ -162,6 +163,20 @@ public final class TapeBoundsTest {
         Check.feedText(x, text.toString());
         b.due("book(899)", x.book(899), NONE);
         b.due("book(899), its end", x.where(), 899);
+    }
+
+    /** 900 bytes, each of them a TOKEN of its own: the most that a text can have. */
+    private void wholeTapeOfTokens() {
+        String[] pairs = {";;", ",,", "a1", "1a", ",;"};
+        for (String pair : pairs) {
+            PaintedOver x = new PaintedOver();
+            b.due("900 tokens " + pair, Check.tell(x, pair.repeat(450)), NONE);
+            b.due("900 tokens " + pair + ", fault()", x.fault(), 1);
+            b.due("900 tokens " + pair + ", where()", x.where(), 0);
+            Check.feedText(x, SMALL + ";hand" + pair.repeat(430));
+            b.due("tokens behind a line " + pair, x.book(899), NONE);
+            b.due("tokens behind a line " + pair + ", fault()", x.fault(), 1);
+        }
     }
 
     /** How many WORKS: none, up to 9. */
